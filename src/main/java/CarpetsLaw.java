@@ -12,7 +12,6 @@ public final class CarpetsLaw {
     private static final int NO_PULL = -10001;
 
     private static final int SIDE = 5, CELLS = 25, SIDES = 4;
-    private static final int ALL_CELLS = (1 << CELLS) - 1;
     private static final int LEFT_COLUMN = 1 | 1 << 5 | 1 << 10 | 1 << 15 | 1 << 20;
     private static final int RIGHT_COLUMN = LEFT_COLUMN << 4;
     private static final int WEAR_LIMIT = 99, WEAR_AT_FIRST = 5, BALD_WITHOUT = 95;
@@ -711,15 +710,11 @@ public final class CarpetsLaw {
             if (people >= PEOPLE_LIMIT) {
                 return FULL;
             }
+            // Nobody yet to come is AWAY or has a ROW: take() clears what undo() takes back.
             int person = people;
             kind[person] = itsKind;
             v[person] = itsV;
             cell[person] = itsCell;
-            // One that undo() took back may have left these behind.
-            away[person] = false;
-            for (int part = 0; part < ROW_PARTS; part++) {
-                rows[person * ROW_PARTS + part] = 0;
-            }
             people++;
             return person;
         }
@@ -841,7 +836,7 @@ public final class CarpetsLaw {
                 if ((reached >> to & 1) == 1) {
                     return steps;
                 }
-                int upDown = reached >> SIDE | reached << SIDE & ALL_CELLS;
+                int upDown = reached >> SIDE | reached << SIDE;
                 int leftRight = (reached & ~LEFT_COLUMN) >> 1 | (reached & ~RIGHT_COLUMN) << 1;
                 reached |= (upDown | leftRight) & open;
             }
@@ -922,13 +917,13 @@ public final class CarpetsLaw {
             return false;
         }
 
-        void goTo(int place) {
+        private void goTo(int place) {
             at = place;
             next = place >= 0 && place < textLength ? text[place] : -1;
         }
 
         /** Goes on behind a word, or to the first byte that is not the word's. */
-        boolean readWord(String word) {
+        private boolean readWord(String word) {
             for (int i = 0; i < word.length(); i++) {
                 if (next != word.charAt(i)) {
                     return false;
@@ -938,7 +933,7 @@ public final class CarpetsLaw {
             return true;
         }
 
-        boolean readClause() {
+        private boolean readClause() {
             int step = DRAW;
             if (next == 'd') {
                 if (!readWord("draw ")) {
@@ -965,7 +960,7 @@ public final class CarpetsLaw {
             return true;
         }
 
-        boolean readBald() {
+        private boolean readBald() {
             if (!readWord("ld ")) {
                 return false;
             }
@@ -978,7 +973,7 @@ public final class CarpetsLaw {
         }
 
         /** One digit or two; NONE if there is none. */
-        int readNumber() {
+        private int readNumber() {
             if (next < '0' || next > '9') {
                 return NONE;
             }
@@ -992,7 +987,7 @@ public final class CarpetsLaw {
         }
 
         /** An E: each & joins its two as soon as both are read, each | not before all & behind it are. */
-        boolean readEither(int depth) {
+        private boolean readEither(int depth) {
             boolean andWaits = false;
             boolean orWaits = false;
             for (int factors = 0; factors < TEXT_LIMIT; factors++) {
@@ -1017,7 +1012,7 @@ public final class CarpetsLaw {
             return false;
         }
 
-        boolean readFactor(int depth) {
+        private boolean readFactor(int depth) {
             if (next != '!' && next != '(') {
                 return readTest();
             }
@@ -1036,7 +1031,7 @@ public final class CarpetsLaw {
             return true;
         }
 
-        boolean readTest() {
+        private boolean readTest() {
             int letter = next < 0 ? NONE : LETTERS.indexOf((char) next);
             if (letter < 0) {
                 return false;
@@ -1055,7 +1050,7 @@ public final class CarpetsLaw {
             return true;
         }
 
-        void addStep(int step, int with) {
+        private void addStep(int step, int with) {
             if (length < TEXT_LIMIT) {
                 steps[length] = step << 12 | with;
                 length++;
@@ -1096,7 +1091,7 @@ public final class CarpetsLaw {
         }
 
         /** 1 if a TEST holds, 0 if not. */
-        static int holds(int test, int[] facts) {
+        private static int holds(int test, int[] facts) {
             int fact = facts[test >> 9];
             int n = test & 0x7F;
             boolean is;

@@ -483,7 +483,10 @@ public final class PeopleTest {
         due("all are bald", x.told(2), 25);
         x.wear(3, 99);
         due("beating 99 below 1", x.told(4), 99);
+        Checker.wearAll(x, 0);
+        due("nothing to beat", x.told(4), 0);
         Checker.statute(x, "bald 0");
+        Checker.wearAll(x, 3);
         due("beating is of no help", x.told(4), -5);
         Checker.wearAll(x, 0);
         due("0 is bald", x.told(2), 25);

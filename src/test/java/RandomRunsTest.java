@@ -38,6 +38,13 @@ public final class RandomRunsTest {
             wear(random.nextInt(25), random.nextInt(100));
         }
         int used = people + worn;
+        if (random.nextInt(15) == 0) {
+            // Close to the last hour, so that what is asked goes beyond it.
+            while (plain.told(0) < 9960) {
+                pass(60);
+                used++;
+            }
+        }
         while (used < CALLS) {
             used += random.nextInt(60) == 0 ? feedText() : call();
         }
@@ -64,6 +71,10 @@ public final class RandomRunsTest {
     }
 
     private int feedText() {
+        if (random.nextInt(4) != 0) {
+            // Signs that stray calls have fed would spoil the text.
+            due("statute()", x.statute(), plain.statute());
+        }
         StringBuilder text = new StringBuilder();
         int clauses = random.nextInt(8) == 0 ? 10 + random.nextInt(2) : 1 + random.nextInt(4);
         for (int i = 0; i < clauses; i++) {
@@ -82,7 +93,7 @@ public final class RandomRunsTest {
             due("feed", x.feed(text.charAt(i)), plain.feed(text.charAt(i)));
         }
         due("statute() of " + text, x.statute(), plain.statute());
-        return text.length() + 1;
+        return text.length() + 2;
     }
 
     private void clause(StringBuilder text, boolean mayBeLong) {
