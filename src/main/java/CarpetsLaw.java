@@ -17,7 +17,7 @@ public final class CarpetsLaw {
     private static final int WEAR_LIMIT = 99, WEAR_AT_FIRST = 5, BALD_WITHOUT = 95;
     private static final int PEOPLE_LIMIT = 6, ROW_PARTS = 4;
     private static final int HOUR_LIMIT = 9999, PASS_LIMIT = 60, ASKED_LIMIT = 40, SEEN_HOURS = 8;
-    private static final int CAT_TREAD = 10;
+    private static final int MORE_WEAR = 10;
 
     private static final int KINDS = 7;
     private static final int[] KIND_ABOVE = {-1, 0, 0, 0, 1, 2, 3};
@@ -307,7 +307,7 @@ public final class CarpetsLaw {
         trial.take(now);
         int sent = 0;
         for (int trodden = 0; trodden < CELLS; trodden++) {
-            trial.tread(trodden, CAT_TREAD);
+            trial.tread(trodden, MORE_WEAR);
             if (trial.sends(person) == cell) {
                 sent++;
             }
@@ -663,7 +663,7 @@ public final class CarpetsLaw {
                 trial.goHour();
                 break;
             case PLAN_WEAR:
-                trial.tread(n, CAT_TREAD);
+                trial.tread(n, MORE_WEAR);
                 break;
             default:
                 trial.away[n] = what == PLAN_AWAY;
