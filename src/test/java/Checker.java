@@ -1,3 +1,7 @@
+import java.io.IOException;
+import java.nio.file.Files;
+import java.nio.file.Path;
+
 /** Prints every answer that is not the one that is due, and ends a test with exit code 1 if there was one. */
 final class Checker {
     private String about = "";
@@ -6,6 +10,12 @@ final class Checker {
 
     void about(String title) {
         about = title;
+    }
+
+    /** What follows is about a sentence of the document, which must stand there word by word. */
+    void says(String sentence) {
+        about("\"" + sentence + "\"");
+        holds("this stands in the document", Document.TEXT.contains(sentence));
     }
 
     void due(String call, long got, long want) {
@@ -47,6 +57,19 @@ final class Checker {
     static void wearAll(CarpetsLaw x, int n) {
         for (int cell = 0; cell < 25; cell++) {
             x.wear(cell, n);
+        }
+    }
+
+    /** Read once, when the first sentence is looked for; line ends count as blanks. */
+    private static final class Document {
+        static final String TEXT = read();
+
+        private static String read() {
+            try {
+                return Files.readString(Path.of("../shared/DOC.md")).replaceAll("\\s+", " ");
+            } catch (IOException e) {
+                throw new IllegalStateException("no document", e);
+            }
         }
     }
 }
