@@ -20,6 +20,10 @@ public final class EdgesOfHoursTest {
         return Script.run(CHECK, steps);
     }
 
+    private static int distance(int a, int b) {
+        return Math.abs(a / 5 - b / 5) + Math.abs(a % 5 - b % 5);
+    }
+
     private static void pass() {
         CHECK.says("n HOURS (0 .. 60) go: HOUR. BAD; STATE: it would be above 9999.");
         run("pass 0 = 0", "pass 60 = 60", "pass 61 = BAD", "pass -1 = BAD", "pass MIN = BAD", "pass MAX = BAD",
@@ -56,6 +60,9 @@ public final class EdgesOfHoursTest {
             "on 1 10 = 98", "on 40 10 = 95", "on 31 10 = 95", "on 30 10 = 96", "told 0 = 9", "told 10 = 99");
         run("wear 0 98", "on 40 0 = 0", "on 39 0 = 1");
         run().each(0, 24, "wear # 0").then("on 40 10 = 0");
+        // It goes by all that is theirs: the kind and v of the last one as of the first.
+        run().times(5, "one 2 1 0").then("one 0 7 12", "law draw 9 v=7&c=13 = 0", "on 1 45 = 13", "can 5 0 = 10", "see 5 1 13",
+            "can 5 0 = 1", "can 5 1 = 7", "on 1 45 = 13", "way 5 13 0 = 1", "night 5 13 = 0", "odds 5 13 0 = 22");
         // One who is away is where it is behind forty hours, too.
         run("one 0 0 12", "away 0 true", "on 40 40 = 12", "on 40 22 = 1");
     }
@@ -104,6 +111,12 @@ public final class EdgesOfHoursTest {
             + "which it could be there (-5: by none).");
         run("one 0 0 0", "way 0 0 1 = 0", "way 0 24 1 = 8", "wear 24 94", "way 0 24 1 = 8", "wear 24 95",
             "way 0 24 1 = NEVER", "wear 0 95", "way 0 0 1 = 0", "way 0 23 1 = 7", "wear 0 99", "way 0 0 1 = 0");
+        for (int cell = 0; cell < 25; cell++) {
+            int own = cell == 12 ? 13 : 12;
+            run("one 0 0 " + own, "wear " + cell + " 94", "way 0 " + cell + " 1 = " + distance(own, cell),
+                "wear " + cell + " 95", "way 0 " + cell + " 1 = NEVER", "put 0 " + cell, "way 0 " + cell + " 1 = 0",
+                "way 0 " + own + " 1 = " + distance(own, cell));
+        }
         run("one 0 0 0", "wear 1 95", "way 0 2 1 = 4", "way 0 1 1 = NEVER", "wear 5 95", "way 0 2 1 = NEVER",
             "way 0 0 1 = 0", "wear 5 94", "way 0 2 1 = 4");
         // The longest way there is: a snake through the hall.

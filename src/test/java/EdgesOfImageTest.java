@@ -75,6 +75,10 @@ public final class EdgesOfImageTest {
         run("one 6 3 12", "row 0 3 8", "image", "put 0 3", "away 0 true", "row 0 3 1", "undo = 1", "of 0 2 = 12", "of 0 3 = 0",
             "row 0 3 0 = 8", "of 0 0 = 6", "of 0 1 = 3");
         run("one 0 3 12", "away 0 true", "image", "away 0 false", "undo = 1", "of 0 3 = 1");
+        // The last of six as well as the first.
+        run().times(6, "one 6 3 12").each(0, 3, "row 5 # 8").then("away 5 true", "image").each(0, 3, "row 5 # 1 = 8")
+            .then("away 5 false", "put 5 24", "undo = 6").each(0, 3, "row 5 # 2 = 8").then("of 5 3 = 1", "of 5 2 = 12",
+            "of 4 3 = 0");
         run("pass 7", "image", "pass 60", "undo = 0", "told 0 = 7", "told 3 = 125");
         run("one 0 0 0", "see 0 0 0", "see 0 0 0", "image", "see -1 0 0", "see 0 0 9", "undo", "count 2 = 2", "from 0 = 1");
         run("one 0 0 0", "image", "see 0 0 9", "plan 1 0", "book 0 9", "undo", "count 2 = 0", "count 3 = 0", "count 4 = 0",

@@ -16,6 +16,7 @@ public final class EdgesOfStatutesTest {
         faultAtEnd();
         faultsOfOneSign();
         newestHolds();
+        faultLeavesNothing();
         sixAtMost();
         CHECK.end();
     }
@@ -338,6 +339,15 @@ public final class EdgesOfStatutesTest {
         run("one 0 0 12", "told 1 = 95", "pull 0 7 = 5", "of 0 4 = 7", "law bald 0x = -16", "told 1 = 95", "of 0 4 = 7",
             "law bar 9 c=7;bald 50 = 0", "pull 0 7 = -4", "of 0 4 = 13", "told 1 = 50", "law draw 9 c=17 = 1",
             "pull 0 7 = 5", "of 0 4 = 17", "told 1 = 95", "law draw 9 c=11;bald 5; = -29", "of 0 4 = 17", "told 1 = 95");
+    }
+
+    /** A text with a FAULT is read up to it: nothing of that may be left in the next. */
+    private static void faultLeavesNothing() {
+        CHECK.says("-10 less the FAULT (the one that held holds).");
+        run("one 0 0 0", "law bald 9;draw 50 p=0x = -28", "told 1 = 95", "pull 0 3 = 5", "law bar 1 c=3 = 0", "told 1 = 95",
+            "pull 0 3 = 4", "pull 0 4 = 5");
+        run("one 0 0 0", "law bald 9x = -16", "law draw 1 p=0 = 0", "told 1 = 95", "pull 0 3 = 6", "law bald 8;; = -17",
+            "told 1 = 95", "pull 0 3 = 6", "law bar 2 p=0 = 1", "told 1 = 95", "pull 0 3 = 3");
     }
 
     private static void sixAtMost() {
