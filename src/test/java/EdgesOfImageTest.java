@@ -27,7 +27,7 @@ public final class EdgesOfImageTest {
         run("judge -1 0 = NONE", "judge 6 0 = NONE", "judge MIN 0 = NONE", "judge MAX 0 = NONE", "judge 6 -1 = NONE",
             "judge 0 0 = 100", "judge 5 0 = 100", "judge 5 -1 = 100", "judge 5 MAX = 100", "judge 5 MIN = 100");
         for (int sort = 1; sort <= 4; sort++) {
-            run("tape 5 " + sort + " 25", "judge 5 0 = CAST", "judge 5 25 = CAST", "tape 5 " + sort + " 0",
+            run("tape 5 " + sort + " 25", "judge 5 0 = CAST", "judge 5 25 = CAST", "judge 5 -1 = CAST", "tape 5 " + sort + " 0",
                 "judge 5 0 = CAST", "tape 5 -1 0", "judge 5 0 = 100");
         }
         run("tape 5 0 0", "judge 5 0 = 100", "judge 5 1 = 100", "judge 5 -1 = 100", "tape 0 0 1", "judge 0 0 = 0",
